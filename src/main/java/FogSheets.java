@@ -370,33 +370,14 @@ public final class FogSheets {
         if (!now.isIn(sheet)) {
             return STATE;
         }
-        Row told = rows[row];
-        if (told.missing) {
-            return found(NULL);
-        }
-        if (!told.holds(i, n)) {
-            return found(PLACE);
-        }
-        foreteller.hear(told, i, n);
-        if (which == 0) {
-            return well(foreteller.fittingKinds(now, sheet));
-        }
-        return well(which == 1 ? foreteller.fittingStarts(now, sheet) : foreteller.fittingThicks(now, sheet));
+        return allThatFits(which, sheet, row, i, n);
     }
 
     public int gusts(int wind, int row, int i, int n) {
         if (!now.isWind(wind) || !isRow(row) || !isWithin(n, 1, 12)) {
             return BAD;
         }
-        Row told = rows[row];
-        if (told.missing) {
-            return found(NULL);
-        }
-        if (!told.holds(i, n)) {
-            return found(PLACE);
-        }
-        foreteller.hear(told, i, n);
-        return well(foreteller.fittingGusts(now, wind));
+        return allThatFits(Foreteller.ITS_GUST, wind, row, i, n);
     }
 
     public long lift(int cell, int n, int p, int what) {
@@ -503,6 +484,18 @@ public final class FogSheets {
     private int well(int answer) {
         latestFinding = 0;
         return answer;
+    }
+
+    private int allThatFits(int what, int one, int row, int i, int n) {
+        Row told = rows[row];
+        if (told.missing) {
+            return found(NULL);
+        }
+        if (!told.holds(i, n)) {
+            return found(PLACE);
+        }
+        foreteller.hear(told, i, n);
+        return well(foreteller.fitting(now, what, one));
     }
 
     private int rowsThere() {
@@ -1045,6 +1038,7 @@ public final class FogSheets {
     /** Looks ahead in a copy of the ESTUARY, so that nothing changes. */
     private static final class Foreteller {
         private static final int MOST_WALK = 6, MOST_TOLD = 12;
+        private static final int ITS_KIND = 0, ITS_START = 1, ITS_THICK = 2, ITS_GUST = 3;
 
         private final Estuary then = new Estuary();
         private final int[][] overThen = new int[MOST_WALK][MOST_CELLS];
@@ -1247,44 +1241,47 @@ public final class FogSheets {
             System.arraycopy(row.items, i, told, 0, hoursTold);
         }
 
-        int fittingKinds(Estuary now, int sheet) {
+        /** All values of a SHEET's kind, start or thick, or of a WIND, by which it is as heard (bits). */
+        int fitting(Estuary now, int what, int one) {
+            int least = what == ITS_START || what == ITS_GUST ? 0 : 1;
+            int most = mostOf(now, what);
             int fitting = 0;
-            for (int kind = SHEET; kind <= ODD; kind++) {
+            for (int v = least; v <= most; v++) {
                 then.become(now);
-                then.kinds[sheet] = kind;
-                fitting |= isAsTold() ? 1 << kind : 0;
+                suppose(what, one, v);
+                fitting |= isAsTold() ? 1 << v : 0;
             }
             return fitting;
         }
 
-        int fittingStarts(Estuary now, int sheet) {
-            int fitting = 0;
-            for (int cell = 0; cell < now.cells; cell++) {
-                then.become(now);
-                then.at[sheet] = cell;
-                fitting |= isAsTold() ? 1 << cell : 0;
+        private static int mostOf(Estuary now, int what) {
+            switch (what) {
+                case ITS_KIND:
+                    return ODD;
+                case ITS_START:
+                    return now.cells - 1;
+                case ITS_THICK:
+                    return MOST_THICK;
+                default:
+                    return STRONGEST;
             }
-            return fitting;
         }
 
-        int fittingThicks(Estuary now, int sheet) {
-            int fitting = 0;
-            for (int thick = 1; thick <= MOST_THICK; thick++) {
-                then.become(now);
-                then.thick[sheet] = thick;
-                fitting |= isAsTold() ? 1 << thick : 0;
+        private void suppose(int what, int one, int v) {
+            switch (what) {
+                case ITS_KIND:
+                    then.kinds[one] = v;
+                    break;
+                case ITS_START:
+                    then.at[one] = v;
+                    break;
+                case ITS_THICK:
+                    then.thick[one] = v;
+                    break;
+                default:
+                    then.winds[one] = v;
+                    break;
             }
-            return fitting;
-        }
-
-        int fittingGusts(Estuary now, int wind) {
-            int fitting = 0;
-            for (int gust = 0; gust <= STRONGEST; gust++) {
-                then.become(now);
-                then.winds[wind] = gust;
-                fitting |= isAsTold() ? 1 << gust : 0;
-            }
-            return fitting;
         }
 
         private boolean isAsTold() {

@@ -109,6 +109,10 @@ public final class ForetoldTest {
         Tapes.read(x, "e6,0,0,0;g2;o0,4,9;o1,5,1;o0,1,2;");
         Due.are("22: through the thinner ones", new long[] {x.walk(6, -1), x.walk(6, 0), x.walk(6, 3), x.walk(6, 5)},
             11 + 12 + 13 + 5 + 6 + 7, 1, 4, 4);
+        Due.is("22: a shorter one behind a longer one", x.walk(1, -1), 11);
+        Due.is("22: down to the end", Tapes.estuary("e6,0,1,0;g2;o1,5,9;").walk(2, 0), 0);
+        Due.is("22: up to the end", Tapes.estuary("e6,0,4,0;g2;o0,5,9;").walk(2, 1), 5);
+        Due.is("22: not beyond an end", Tapes.estuary("e6,0,5,0;g2;o4,2,9;").walk(1, -1), 9);
     }
 
     private static void promise23() {
@@ -120,6 +124,7 @@ public final class ForetoldTest {
         Due.are("23: each", new long[] {x.meet(0), x.meet(1), x.meet(2), x.meet(3), x.meet(4)}, 15, 0, 3, NONE, 9);
         x.hours(2);
         Due.are("23: one is gone", new long[] {x.meet(2), x.meet(3)}, 2, NONE);
+        Due.is("23: down to the end", Tapes.estuary("e6,0,5,0;g2;o0,1,9;").meet(0), 5);
     }
 
     private static void promise24() {
@@ -137,6 +142,12 @@ public final class ForetoldTest {
             0, 1, 2, 3);
         x.wake(0);
         Due.are("24: asleep, the first", new long[] {x.site(30, 0), x.site(30, 1)}, 0, 1);
+        Tapes.read(x, "e6,5,0,15;g2;o0,1,9;o0,1,9;o3,1,9;");
+        Due.are("24: on 0", new long[] {x.site(1, 0), x.site(1, 1)}, 0, 2);
+        Tapes.read(x, "e6,0,0,15;g2;o1,1,9;");
+        Due.are("24: on 1", new long[] {x.site(1, 0), x.site(1, 1)}, 1, 1);
+        Tapes.read(x, "e6,0,0,15;g2;o5,1,9;");
+        Due.are("24: on the last", new long[] {x.site(1, 0), x.site(1, 1)}, 5, 1);
     }
 
     private static void promise25() {
@@ -216,6 +227,13 @@ public final class ForetoldTest {
         Due.is("28: m 21", x.byTurns(0, 21), BAD);
         Due.are("28: who has the last word", new long[] {x.byTurns(0, 1), x.byTurns(1, 1), x.byTurns(2, 1),
             x.byTurns(3, 1), x.byTurns(4, 1)}, 9, 0, 9, 0, 9);
+        FogSheets mirrored = Tapes.estuary("e6,0,2,0;g1;s1,3,9;");
+        Due.are("28: the other way around", new long[] {mirrored.byTurns(0, 1), mirrored.byTurns(1, 1),
+            mirrored.byTurns(2, 1), mirrored.byTurns(3, 1), mirrored.byTurns(4, 1)}, 9, 0, 9, 0, 9);
+        Due.is("28: down to the end", Tapes.estuary("e6,0,1,0;g2;o1,5,9;").byTurns(1, 1), 0);
+        Due.is("28: up to the end", Tapes.estuary("e6,0,4,0;g2;o0,5,9;").byTurns(1, 1), 0);
+        Due.is("28: not below the end", Tapes.estuary("e6,0,0,0;g2;o0,2,9;").byTurns(1, 1), 9);
+        Due.is("28: not above the end", Tapes.estuary("e6,0,5,0;g2;o4,2,9;").byTurns(1, 1), 9);
         Due.are("28: gone at last", new long[] {x.byTurns(0, 20), x.byTurns(2, 20)}, 0, 0);
         // The walker can't go below 0, the wind that is turned is that of this hour alone.
         Tapes.read(x, "e6,0,0,0;g2;g4;b0,5,9;o0,2,1;");
@@ -368,6 +386,7 @@ public final class ForetoldTest {
         Due.is("34: no act", x.undo(), STATE);
         x.hours(3);
         Due.is("34: the other", x.restore(1), 1);
+        Due.are("34: no hour can be undone", new long[] {x.count(6), x.undo()}, 0, STATE);
         Due.are("34: as the other was", new long[] {x.stand(2), x.stand(3), x.stand(7), x.count(3), x.sheet(0, 2)},
             1, 0, 4, 2, 5);
         x.hours(3);
