@@ -22,4 +22,13 @@ final class Tapes {
         }
         return x;
     }
+
+    /** An estuary behind some hours. */
+    static FogSheets estuary(String text, int hours) {
+        FogSheets x = estuary(text);
+        for (int left = hours; left > 0; left -= 24) {
+            x.hours(Math.min(left, 24));
+        }
+        return x;
+    }
 }
