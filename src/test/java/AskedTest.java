@@ -142,7 +142,7 @@ public final class AskedTest {
         asks(1, 0, -(2 + 2 * (1 + 9)), 12, 11, 10, 24, 21, 20);
     }
 
-    @Says({"else that of the nearest KIND that it is, too", "SIZE, MARK within others are asked of the same SHEET anew.)"})
+    @Says({"else that of the nearest KIND that it is, too", "within others are asked of the same SHEET anew.)"})
     static void p37_sizeOfAWisp() {
         asks(2, 0, 4 + 2 + 7 - 1000, 11, 10, 22, 21, 20);
     }
@@ -271,7 +271,7 @@ public final class AskedTest {
         Due.are(new long[] {x.trace(-1), x.trace(LEAST), x.trace(MOST)}, NONE, NONE, NONE);
     }
 
-    @Says("(the first 16).")
+    @Says("(the first 16)")
     static void p38_the16thAndBeyond() {
         FogSheets x = Tapes.estuary(ONE_OF_EACH);
         for (int i = 0; i < 4; i++) {
@@ -294,8 +294,8 @@ public final class AskedTest {
 
     // ---- 39: count
 
-    @Says("How many: 0 ROWS, 1 SHEETS, 2 WINDS, 3 HOUR, 4 how many have a NUMBER, 5 how many are IN, 6 ACTS that can be "
-        + "undone, 7 bytes on the tape.")
+    @Says("How many: 0 ROWS, 1 SHEETS, 2 WINDS, 3 HOUR, 4 how many have a NUMBER, 5 how many are IN, "
+        + "6 ACTS that can be undone, 7 bytes on the tape.")
     static void p39_eachCount() {
         FogSheets x = Tapes.estuary("e6,0,0,15;g2;g4;g2;o0,1,9;o0,1,9;w3,2,1;o0,1,9;o5,1,9;");
         x.row(0, 0, 1);

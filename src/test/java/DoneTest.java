@@ -767,7 +767,8 @@ public final class DoneTest {
     @Says("One that is IN lies on the CELLS from AT on up, as many as it is WIDE")
     static void p15_asManyCellsAsItIsWide() {
         for (int wide = 1; wide <= 5; wide++) {
-            Due.is("wide " + wide, Tapes.estuary("e16,0,0,0;g2;s4," + wide + ",9;").sheet(0, 4), ((1 << wide) - 1) << 4);
+            FogSheets x = Tapes.estuary("e16,0,0,0;g2;s4," + wide + ",9;");
+            Due.is("wide " + wide, x.sheet(0, 4), ((1 << wide) - 1) << 4);
         }
     }
 

@@ -291,7 +291,7 @@ public final class ForetoldTest {
     }
 
     @Says({"WALK for n HOURS (1 to 6): ahead of each of them the walker goes one CELL down, stays, or goes one up",
-        "WALK: how much (k = -1), the CELL behind the k-th (0 on;"})
+        "how much; the CELL behind the k-th.", "WALK: how much (k = -1), the CELL behind the k-th (0 on;"})
     static void p22_theStepIsAheadOfTheHour() {
         FogSheets x = Tapes.estuary("e6,0,2,0;g3;s0,2,9;");
         Due.are(walk(x, 1), 0, 3);
@@ -336,6 +336,12 @@ public final class ForetoldTest {
         Due.are(walk(x, 1), 0, 8);
         Due.are(walk(x, 6), 0, 8, 7, 6, 5, 4, 3);
         Due.are(walk(x, 1), 0, 8);
+    }
+
+    @Says("WALK for n HOURS (1 to 6)")
+    static void p22_aShorterOneBehindALongerOne() {
+        FogSheets x = Tapes.estuary("e6,0,0,0;g2;o0,4,9;o1,5,1;o0,1,2;");
+        Due.are(new long[] {x.walk(6, -1), x.walk(5, -1), x.walk(3, -1), x.walk(1, -1)}, 54, 47, 36, 11);
     }
 
     @Says("NONE: not so many).")
@@ -558,6 +564,13 @@ public final class ForetoldTest {
         FogSheets x = Tapes.estuary("e6,0,0,0;g2;h1,1,9;h2,1,9;h3,1,9;h4,1,9;");
         Due.are(waking(x, 4), 15, 4);
         Due.are(waking(x, 3), 7, 3);
+    }
+
+    @Says("those with the fewest bits")
+    static void p25_allButOne() {
+        Due.are(waking(Tapes.estuary("e6,0,0,0;g2;h2,1,9;h3,1,9;h4,1,9;"), 30), 14, 3);
+        Due.are(waking(Tapes.estuary("e6,0,0,0;g2;h1,1,9;h3,1,9;h4,1,9;"), 30), 13, 3);
+        Due.are(waking(Tapes.estuary("e6,0,0,0;g2;h1,1,9;h2,1,9;h4,1,9;"), 30), 11, 3);
     }
 
     @Says("bits 0 to 3: whether the clerk is awake in HOURS that leave 0 to 3 by 4")

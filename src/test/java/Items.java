@@ -5,7 +5,7 @@ final class Items {
     private Items() {
     }
 
-    /** One of the odd over the walker in a calm: behind an hour there is 1 more than its THICK over the walker, or 9. */
+    /** One of the odd over the walker in a calm: behind an hour it is 1 thicker there, 9 at most. */
     static FogSheets estuary() {
         return Tapes.estuary("e6,0,0,0;g2;o0,1,9;");
     }

@@ -91,8 +91,8 @@ public final class LanguageTest {
                 files.getJavaFileObjects(SOURCE));
             SourcePositions positions = Trees.instance(task).getSourcePositions();
             for (CompilationUnitTree unit : task.parse()) {
-                Due.is("rule 4, imports", unit.getImports().toString().trim().equals("import java.util.Arrays;") ? 1 : 0,
-                    1);
+                boolean allowed = unit.getImports().toString().trim().equals("import java.util.Arrays;");
+                Due.is("rule 4, imports", allowed ? 1 : 0, 1);
                 Due.is("one class", unit.getTypeDecls().size(), 1);
                 new Rules(unit, positions).scan(unit, null);
             }

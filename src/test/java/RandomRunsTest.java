@@ -143,7 +143,8 @@ public final class RandomRunsTest {
     private void any(String name) {
         switch (name) {
             case "row" -> compare(name, near(0, 7), near(0, 2), near(-1, 40));
-            case "set" -> compare(name, near(0, 7), near(0, 12), random.nextInt(3) == 0 ? random.nextInt() : one(0, 20));
+            case "set" ->
+                compare(name, near(0, 7), near(0, 12), random.nextInt(3) == 0 ? random.nextInt() : one(0, 20));
             case "copy" -> compare(name, near(0, 7), near(0, 6), near(0, 7), near(0, 6), near(0, 8));
             case "drop" -> compare(name, near(0, 7));
             case "feed" -> {
@@ -187,7 +188,8 @@ public final class RandomRunsTest {
             case "byTurns" -> compare(name, near(0, 4), near(1, random.nextInt(3) == 0 ? 20 : 6));
             case "who" -> compare(name, near(0, 5), near(0, 2), near(0, 7), near(0, 3), near(1, 12));
             case "gusts" -> compare(name, near(0, 5), near(0, 7), near(0, 3), near(1, 12));
-            case "lift" -> compare(name, near(0, 15), near(0, random.nextInt(3) == 0 ? 60 : 6), near(0, 10), near(0, 1));
+            case "lift" ->
+                compare(name, near(0, 15), near(0, random.nextInt(3) == 0 ? 60 : 6), near(0, 10), near(0, 1));
             case "drawn" -> compare(name, near(0, 60), near(1, 999999), near(0, 1));
             case "as" -> compare(name, near(0, 5), near(0, 5));
             case "ask" -> {

@@ -130,6 +130,12 @@ public final class ReckonedTest {
             167, 167, 167, 166, 166, 166);
     }
 
+    @Says("each SHEET that is IN gets as many")
+    static void p27_aLoneOneHoweverThinGetsAll() {
+        Due.are(shares(Tapes.estuary("e6,0,0,0;g2;s0,1,1;"), 7), 7);
+        Due.are(shares(Tapes.estuary("e6,0,0,0;g2;w0,5,1;s0,1,1;", 1), 999), 0, 999);
+    }
+
     @Says("(0, if it is GONE).")
     static void p27_oneThatIsGoneGetsNone() {
         Due.are(shares(Tapes.estuary(PAILS, 1), 10), 0, 2, 5, 3);
@@ -250,6 +256,15 @@ public final class ReckonedTest {
         Due.are(turns("e6,0,2,0;g3;s1,3,9;b2,1,3;", 1), 12, 0, 9, 0, 9);
     }
 
+    @Says("TURNS of two, n in all (0 to 4)")
+    static void p28_behindAWalkInThickFog() {
+        FogSheets x = Tapes.estuary("e6,0,2,0;g2;s0,5,9;s0,5,9;w0,5,9;w0,5,9;h1,5,9;h1,5,9;");
+        x.walk(6, -1);
+        Tapes.read(x, "e6,0,2,0;g3;s1,3,9;");
+        Due.are(new long[] {x.byTurns(0, 1), x.byTurns(1, 1), x.byTurns(2, 1), x.byTurns(3, 1), x.byTurns(4, 1)},
+            9, 0, 9, 0, 9);
+    }
+
     @Says("BAD;")
     static void p28_notSoManyTurns() {
         FogSheets x = Tapes.estuary(THREE);
@@ -315,7 +330,7 @@ public final class ReckonedTest {
         Due.is(told("e6,0,5,0;g2;s0,5,5;", 5).who(0, 1, 0, 0, 1), 0b111110);
     }
 
-    @Says({"THICKS (1 to 9, bits)", "THICKS (2)"})
+    @Says({"THICKS (1 to 9, bits) of a SHEET, if it is IN, by which it is so.", "THICKS (2)"})
     static void p29_thicks() {
         FogSheets x = told("e6,0,2,0;g2;s2,1,5;", 1, 9, 5, 0, 10);
         Due.are(new long[] {x.who(0, 2, 0, 0, 1), x.who(0, 2, 0, 1, 1), x.who(0, 2, 0, 2, 1), x.who(0, 2, 0, 3, 1),
@@ -578,7 +593,7 @@ public final class ReckonedTest {
         Due.are(lift(x, 0, 0, 9), 531441, 1000000);
     }
 
-    @Says("fractions, told as two numbers in lowest terms")
+    @Says("cut towards 0, but fractions, told as two numbers in lowest terms")
     static void p31_inLowestTerms() {
         FogSheets x = Tapes.estuary(STAIRS);
         long[][] six = {{0, 1}, {1, 1000000}, {1, 15625}, {729, 1000000}, {64, 15625}, {1, 64}, {729, 15625},
@@ -694,8 +709,8 @@ public final class ReckonedTest {
         Due.are(drawn(x, 2, 1), 1, 6 + 7);
     }
 
-    @Says("the SHEET that is the rest of X by how many there are, if it is GONE, is let in AT the rest of X by how many "
-        + "CELLS there are, the rest of X by 9 and 1 THICK;")
+    @Says("the SHEET that is the rest of X by how many there are, if it is GONE, is let in AT the rest of X by how "
+        + "many CELLS there are, the rest of X by 9 and 1 THICK;")
     static void p32_oneThatIsInStays() {
         FogSheets x = Tapes.estuary("e6,1,0,15;g2;w5,1,1;", 1);
         // Then X is 282475249, which leaves the wisp that is in as it is, 3 thick, less 1 in an even hour.

@@ -59,6 +59,15 @@ public final class RowsTest {
         Due.is(x.count(0), 3);
     }
 
+    @Says("No ESTUARY.")
+    static void p01_itServesFor512Calls() {
+        FogSheets x = Tapes.estuary("e6,0,0,0;g2;s0,1,1;");
+        for (int call = 21; call <= 511; call++) {
+            x.wake(call % 16);
+        }
+        Due.is(x.stand(3), 511 % 16);
+    }
+
     // ---- 2: row
 
     @Says("A ROW of a LANE with n ITEMS, in place of what is there: n.")
@@ -155,7 +164,7 @@ public final class RowsTest {
         Due.are(new long[] {x.row(0, 0, 41), x.row(0, 2, MOST), x.count(0), x.row(0, 0, 40)}, BAD, BAD, 0, 40);
     }
 
-    @Says("; SIZE.")
+    @Says({"; SIZE.", "4 SIZE (fewer than none)"})
     static void p02_fewerThanNone() {
         FogSheets x = new FogSheets();
         Due.are(new long[] {x.row(0, 0, -1), x.status(), x.row(7, 2, LEAST), x.status(), x.count(0)},

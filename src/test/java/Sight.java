@@ -6,7 +6,7 @@ final class Sight {
     private Sight() {
     }
 
-    /** An object with something of everything: acts, images, rows, a trace, a fault, a finding, a tape, one that is GONE. */
+    /** An object with acts, images, rows, a trace, a fault, a finding, a byte on the tape, and one that is GONE. */
     static FogSheets made() {
         FogSheets x = new FogSheets();
         Tapes.read(x, "e5");

@@ -48,7 +48,7 @@ public final class TextsTest {
         Due.are(new long[] {x.feed(-1), x.feed(256), x.feed(LEAST), x.feed(MOST), x.count(7)}, BAD, BAD, BAD, BAD, 0);
     }
 
-    @Says({"FULL", "THE TAPE has at most 120 bytes"})
+    @Says({"FULL", "TEXTS: THE TAPE has at most 120 bytes"})
     static void p06_120BytesAtMost() {
         FogSheets x = new FogSheets();
         for (int i = 1; i <= 120; i++) {
@@ -182,7 +182,7 @@ public final class TextsTest {
 
     // ---- 7: tokens
 
-    @Says("letters a to z (each by itself)")
+    @Says("TOKENS: letters a to z (each by itself)")
     static void p07_eachLetterByItself() {
         fault("ee6,0,0,0;", 1, 1);
         fault(LAW + "gg0;", 10, 1);
