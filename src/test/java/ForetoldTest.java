@@ -173,6 +173,8 @@ public final class ForetoldTest {
     @Says("behind how many HOURS (0 to 60) first")
     static void p20_farAhead() {
         Due.is(Tapes.estuary("e6,0,0,0;g0;g0;g0;g2;g2;o0,1,9;").when(0, 0), 33);
+        // None is gone later than that, unless never.
+        Due.is(Tapes.estuary("e6,0,0,0;g0;g2;g0;g2;g0;o0,1,9;").when(0, 0), 41);
         Due.is(Tapes.estuary("e16,0,0,15;g2;h15,1,9;").when(0, 1), 15);
     }
 

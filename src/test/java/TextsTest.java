@@ -113,6 +113,15 @@ public final class TextsTest {
         Due.are(new long[] {Tapes.read(x, AHEAD + "s0,1,1;"), x.count(7)}, 1, 0);
     }
 
+    @Says("The tape, empty then, is read")
+    static void p07_nothingOfAnEarlierTapeIsRead() {
+        FogSheets x = new FogSheets();
+        Tapes.read(x, "e66");
+        Due.are(new long[] {Tapes.read(x, "e6"), x.fault()}, -1000102, 1);
+        Tapes.read(x, AHEAD + "s0,1,1;");
+        Due.are(new long[] {Tapes.read(x, AHEAD), x.fault(), x.estuary()}, -1000112, 1, -1000100);
+    }
+
     @Says("-1000100 less the place of a FAULT: all stays.")
     static void p07_behindAFaultAllStays() {
         FogSheets x = Sight.made();
