@@ -904,8 +904,14 @@ public final class FogSheets {
             draft.clear();
             nextToken();
             readLaw();
-            readWinds();
-            readSheets();
+            readWind();
+            for (int i = 0; i < MOST_WINDS && fault == 0 && token == 'g'; i++) {
+                readWind();
+            }
+            readSheet();
+            for (int i = 0; i < MOST_SHEETS && fault == 0 && token != END; i++) {
+                readSheet();
+            }
             draft.told = fault == 0;
             bytes = 0;
         }
@@ -922,13 +928,6 @@ public final class FogSheets {
             take(';');
         }
 
-        private void readWinds() {
-            readWind();
-            for (int i = 0; i < MOST_WINDS && fault == 0 && token == 'g'; i++) {
-                readWind();
-            }
-        }
-
         private void readWind() {
             if (token == 'g' && draft.windCount == MOST_WINDS) {
                 fail(NO_ROOM);
@@ -936,13 +935,6 @@ public final class FogSheets {
             take('g');
             draft.addWind(takeNumber(0, STRONGEST));
             take(';');
-        }
-
-        private void readSheets() {
-            readSheet();
-            for (int i = 0; i < MOST_SHEETS && fault == 0 && token != END; i++) {
-                readSheet();
-            }
         }
 
         private void readSheet() {

@@ -10,6 +10,7 @@ import com.sun.source.tree.Tree;
 import com.sun.source.tree.VariableTree;
 import com.sun.source.util.JavacTask;
 import com.sun.source.util.SourcePositions;
+import com.sun.source.util.TreePathScanner;
 import com.sun.source.util.TreeScanner;
 import com.sun.source.util.Trees;
 import java.io.IOException;
@@ -19,11 +20,17 @@ import java.lang.reflect.Method;
 import java.lang.reflect.Modifier;
 import java.nio.file.Files;
 import java.nio.file.Path;
+import java.util.ArrayDeque;
 import java.util.ArrayList;
+import java.util.Deque;
 import java.util.HashSet;
+import java.util.LinkedHashMap;
+import java.util.LinkedHashSet;
 import java.util.List;
+import java.util.Map;
 import java.util.Set;
 import java.util.TreeSet;
+import javax.lang.model.element.Element;
 import javax.tools.JavaCompiler;
 import javax.tools.StandardJavaFileManager;
 import javax.tools.ToolProvider;
@@ -37,6 +44,7 @@ public final class LanguageTest {
     private static final Set<Tree.Kind> REFUSED = Set.of(Tree.Kind.THROW, Tree.Kind.TRY, Tree.Kind.SYNCHRONIZED,
         Tree.Kind.ASSERT, Tree.Kind.LAMBDA_EXPRESSION, Tree.Kind.MEMBER_REFERENCE, Tree.Kind.DOUBLE_LITERAL,
         Tree.Kind.FLOAT_LITERAL, Tree.Kind.NULL_LITERAL);
+    private static final int DEEPEST = 8;
 
     public static void main(String[] args) throws IOException {
         face();
@@ -89,12 +97,17 @@ public final class LanguageTest {
         try (StandardJavaFileManager files = compiler.getStandardFileManager(null, null, null)) {
             JavacTask task = (JavacTask) compiler.getTask(null, files, null, null, null,
                 files.getJavaFileObjects(SOURCE));
-            SourcePositions positions = Trees.instance(task).getSourcePositions();
+            Trees trees = Trees.instance(task);
+            SourcePositions positions = trees.getSourcePositions();
             for (CompilationUnitTree unit : task.parse()) {
                 boolean allowed = unit.getImports().toString().trim().equals("import java.util.Arrays;");
                 Due.is("rule 4, imports", allowed ? 1 : 0, 1);
                 Due.is("one class", unit.getTypeDecls().size(), 1);
                 new Rules(unit, positions).scan(unit, null);
+                task.analyze();
+                Calls calls = new Calls(trees);
+                calls.scan(unit, null);
+                calls.areNotTooDeep();
             }
         }
     }
@@ -199,6 +212,56 @@ public final class LanguageTest {
                 }
             }
             return super.visitMethodInvocation(tree, none);
+        }
+    }
+
+    /** Which method calls which, so that the longest chain can be told; a recursion is followed once around. */
+    private static final class Calls extends TreePathScanner<Void, Void> {
+        private final Trees trees;
+        private final Map<Element, Set<Element>> called = new LinkedHashMap<>();
+        private final Deque<Element> open = new ArrayDeque<>();
+        private Element caller;
+
+        Calls(Trees trees) {
+            this.trees = trees;
+        }
+
+        @Override
+        public Void visitMethod(MethodTree tree, Void none) {
+            caller = trees.getElement(getCurrentPath());
+            called.put(caller, new LinkedHashSet<>());
+            return super.visitMethod(tree, none);
+        }
+
+        @Override
+        public Void visitMethodInvocation(MethodInvocationTree tree, Void none) {
+            if (called.containsKey(caller)) {
+                called.get(caller).add(trees.getElement(getCurrentPath()));
+            }
+            return super.visitMethodInvocation(tree, none);
+        }
+
+        void areNotTooDeep() {
+            Due.is("methods whose calls are followed", called.size() > FogSheets.class.getMethods().length ? 1 : 0, 1);
+            for (Element one : called.keySet()) {
+                List<Element> chain = longestFrom(one);
+                Due.is("rule 11, calls " + chain, chain.size() <= DEEPEST ? 1 : 0, 1);
+            }
+        }
+
+        private List<Element> longestFrom(Element one) {
+            open.push(one);
+            List<Element> longest = List.of();
+            for (Element next : called.get(one)) {
+                if (called.containsKey(next) && !open.contains(next)) {
+                    List<Element> chain = longestFrom(next);
+                    longest = chain.size() > longest.size() ? chain : longest;
+                }
+            }
+            open.pop();
+            List<Element> all = new ArrayList<>(List.of(one));
+            all.addAll(longest);
+            return all;
         }
     }
 }
